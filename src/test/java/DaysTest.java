@@ -37,7 +37,9 @@ public final class DaysTest {
         CHECK.due("p20 never", Check.streetOf(0, 0, 2, 2).meet(), -1);
         CHECK.due("p20 shared divisors", Check.streetOf(0, 0, 4, 0, 6).meet(), 8);
         CHECK.due("p20 a late day", Check.streetOf(0, 0, 299, 300).meet(), 299 * 299);
-        CHECK.due("p20 beyond the last day", Check.streetOf(0, 0, 299, 300, 289).meet(), -1);
+        CHECK.due("p20 the last day", Check.streetOf(0, 0, 271, 2, 277).meet(), 99999);
+        CHECK.due("p20 the day behind it", Check.streetOf(0, 0, 125, 9, 0, 277).meet(), -1);
+        CHECK.due("p20 far beyond", Check.streetOf(0, 0, 299, 300, 289).meet(), -1);
     }
 
     private static void next() {
@@ -52,6 +54,7 @@ public final class DaysTest {
         CHECK.refused(x, "p21 next(-1)", () -> x.next(-1), -2, 0);
         CHECK.refused(x, "p21 next(100000)", () -> x.next(100000), -2, 0);
         CHECK.refused(empty, "p21 BAD ahead of none", () -> empty.next(-1), -2, 0);
+        CHECK.due("p21 of house 0", Check.streetOf(0, 0, 10, 0, 0, 300).next(4), 6);
         OddFridays late = Check.streetOf(0, 0, 0, 0, 0, 0, 0, 0, 0, 300);
         CHECK.due("p21 past the last day", late.next(99999), 208);
     }

@@ -53,6 +53,16 @@ public final class KeptTest {
         x.house(7, 8);
         x.from(0);
         CHECK.due("p32 the newer one", x.of(7, 0), 7);
+        for (int i = 1; i <= 9; i++) {
+            x.house(6, i);
+        }
+        x.image(1);
+        x.street(0, 0);
+        x.from(1);
+        for (int i = 8; i >= 1; i--) {
+            x.undo();
+            CHECK.due("p33 all eight steps back, to " + i, x.of(6, 0), i);
+        }
     }
 
     private static void status() {

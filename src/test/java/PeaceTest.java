@@ -37,6 +37,11 @@ public final class PeaceTest {
         CHECK.refused(x, "p15 orders(-2)", () -> x.orders(-2), -10, 0);
         OddFridays like = Check.streetOf(0, 0, 5, 5, 5, 5, 5, 5, 5, 5);
         CHECK.due("p15 like ones count apart", like.orders(-1), 40320);
+        OddFridays turn = Check.streetOf(0, 0, 3, 2, 4);
+        CHECK.due("p15 3 in the middle", turn.orders(-1), 2);
+        CHECK.due("p15 not the first that fits house 0 alone", turn.orders(0), 2);
+        CHECK.due("p15 then 3", turn.orders(1), 3);
+        CHECK.due("p15 then 4", turn.orders(2), 4);
         OddFridays none = Check.streetOf(0, 0, 1, 2, 0, 0);
         CHECK.due("p15 none", none.orders(-1), 0);
         CHECK.due("p15 no first", none.orders(0), -1);
@@ -62,6 +67,7 @@ public final class PeaceTest {
         CHECK.due("p17 like ones divide", Check.streetOf(0, 0, 5, 5, 5, 7).longest(), 3);
         CHECK.due("p17 two behind a turn", Check.streetOf(0, 0, 2, 4, 8, 16, 3).longest(), 3);
         CHECK.due("p17 whatever the law", Check.streetOf(2, 0, 3, 5, 7, 11).longest(), 4);
+        CHECK.due("p17 one", Check.streetOf(0, 0, 12).longest(), 1);
         CHECK.due("p17 nobody", new OddFridays().longest(), 0);
     }
 

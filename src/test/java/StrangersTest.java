@@ -46,6 +46,13 @@ public final class StrangersTest {
         CHECK.asks(x, "p24 of 2, 3, 5, 7, 9 two may live beside 13", x::tryNext, 13);
         x.reading(2, 1);
         CHECK.asks(x, "p24 none", x::tryNext, -1);
+        OddFridays single = Check.streetOf(4, 9);
+        single.reading(1, 1);
+        CHECK.due("p24 nobody but 1 bears 1, and he is shy", single.who(0), 0);
+        OddFridays sure = new OddFridays();
+        sure.reading(1, 1);
+        CHECK.asks(sure, "p24 he is 1", () -> sure.who(0), 1);
+        CHECK.asks(sure, "p24 any x parts one alike", sure::tryNext, 1);
     }
 
     private static void note() {
@@ -68,6 +75,9 @@ public final class StrangersTest {
         OddFridays x = Check.streetOf(5, 5);
         CHECK.asks(x, "p26 all", () -> x.laws(0), 60);
         CHECK.asks(x, "p26 the first of all", () -> x.laws(1), 0);
+        x.note(2, 4, 1);
+        CHECK.asks(x, "p26 just one note", () -> x.laws(0), 0);
+        x.forget(1);
         x.note(220, 284, 1);
         x.note(5, 7, 0);
         CHECK.asks(x, "p26 PRIME, SHY from 3 on, FRIEND", () -> x.laws(0), 10 + 7 + 10);
@@ -108,6 +118,8 @@ public final class StrangersTest {
         CHECK.asks(x, "p28 12, 1, 2 and 25 in a row", () -> x.split(5), 2);
         CHECK.refused(x, "p28 split(8)", () -> x.split(8), -2, 0);
         CHECK.refused(x, "p28 split(-1)", () -> x.split(-1), -2, 0);
+        OddFridays round = Check.streetOf(0, 0, 0, 7, 0, 5, 5, 5, 5, 14);
+        CHECK.asks(round, "p28 round to house 0, not 2", () -> round.split(7), 0);
         OddFridays one = Check.streetOf(0, 0, 1);
         CHECK.asks(one, "p28 1 can't be split", () -> one.split(0), -1);
         OddFridays two = Check.streetOf(4, 9, 2);

@@ -125,10 +125,10 @@ public final class StreetTest {
             x.house(0, i);
         }
         CHECK.due("p7 eight at most", x.count(4), 8);
-        for (int i = 0; i < 8; i++) {
+        for (int i = 8; i >= 1; i--) {
             x.undo();
+            CHECK.due("p7 back to " + i, x.of(0, 0), i);
         }
-        CHECK.due("p7 behind the ninth last", x.of(0, 0), 1);
         CHECK.refused(x, "p7 behind eight", x::undo, -3, 1);
     }
 
@@ -183,6 +183,12 @@ public final class StreetTest {
         told("  street   3 4  ;  house 1 7 ; house 1 0;house 2 2; ", 4, 34, 0, 0, 2);
         told("street 005 009;house 007 012;", 2, 59, 0, 0, 0, 0, 0, 0, 0, 12);
         told("street4 4;house1 3;", 2, 44, 0, 3);
+        OddFridays twice = new OddFridays();
+        Check.typeAll(twice, "street 0 0;house 0 9;house 7 9;");
+        twice.read();
+        Check.typeAll(twice, "street 0 0;house 1 9;");
+        twice.read();
+        CHECK.due("p10 nothing is left of the text before", twice.of(0, 0) + twice.of(7, 0), 0);
         fault("", 0);
         fault("   ", 3);
         fault("street", 6);
@@ -193,6 +199,11 @@ public final class StreetTest {
         fault("street 1 1;house 1 1 ", 21);
         fault("stree 1 1;", 0);
         fault("streets 1 1;", 0);
+        fault("ttreet 1 1;", 0);
+        fault("streez 1 1;", 0);
+        fault("streetaz 1 1;", 0);
+        fault("street 1 1;house 1 1az;", 20);
+        fault("street 1 1;mouse 1 1;", 11);
         fault(" Street 1 1;", 1);
         fault("street 6 1;", 7);
         fault("street 1 10;", 9);
@@ -240,6 +251,11 @@ public final class StreetTest {
         CHECK.refused(x, "p11 of(-1, 0)", () -> x.of(-1, 0), -2, 0);
         CHECK.refused(x, "p11 of(0, 5)", () -> x.of(0, 5), -2, 0);
         CHECK.refused(x, "p11 of(3, -1)", () -> x.of(3, -1), -2, 0);
+        OddFridays last = Check.streetOf(0, 0, 300, 289, 256);
+        CHECK.due("p11 parts of 300", last.of(0, 1), 568);
+        CHECK.due("p11 parts of 289", last.of(1, 1), 18);
+        CHECK.due("p11 289 is a square", last.of(1, 3), 1);
+        CHECK.due("p11 300 is none", last.of(0, 3), 0);
         OddFridays ends = Check.streetOf(0, 0, 2, 0, 0, 0, 0, 0, 0, 4);
         CHECK.due("p11 houses 7 and 0 are not side by side", ends.of(0, 4) + ends.of(7, 4), 0);
     }
