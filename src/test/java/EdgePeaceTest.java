@@ -185,6 +185,15 @@ public final class EdgePeaceTest {
         Edges.due(0, x.orders(-1));
     }
 
+    static void p15_orders_aHouseThatWasLivedInIsEmpty() {
+        OddFridays x = Edges.row(0, 7, 8, 9, 10, 11, 12, 13, 15);
+        for (int h = 7; h >= 0; h--) {
+            x.orders(h);
+            x.house(h, 0);
+            Edges.due(0, x.orders(h));
+        }
+    }
+
     static void p15_orders_nobodyMovesIndeed() {
         OddFridays x = Edges.row(0, 4, 2, 3);
         x.orders(0);
