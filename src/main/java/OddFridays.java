@@ -195,14 +195,16 @@ public final class OddFridays {
     }
 
     public int longest() {
-        return peace.longestRow(now.row);
+        peace.settleApart(now.row);
+        return peace.longestRow();
     }
 
     public int greatest(int what) {
         if (!isBit(what)) {
             return refuseBad();
         }
-        int chosen = peace.greatestSet(now.row);
+        peace.settleApart(now.row);
+        int chosen = peace.greatestSet();
         return what == 0 ? Integer.bitCount(chosen) : chosen;
     }
 
@@ -678,15 +680,15 @@ public final class OddFridays {
         }
 
         boolean isPrime(int x) {
-            return isNumber(x) && parts[x] == 1;
+            return x > 0 && x < parts.length && parts[x] == 1;
         }
 
         boolean isSquare(int x) {
-            return isNumber(x) && squares[x];
+            return x > 0 && x < squares.length && squares[x];
         }
 
         boolean areFriends(int a, int b) {
-            return partsOf(a) == b && partsOf(b) == a;
+            return isNumber(a) && isNumber(b) && parts[a] == b && parts[b] == a;
         }
     }
 
@@ -947,7 +949,7 @@ public final class OddFridays {
         }
 
         /** The PLAIN law keeps those apart of whom one divides the other, but for like ones. */
-        private void settleApart(int[] row) {
+        void settleApart(int[] row) {
             settle(PLAIN_LAW, row);
             for (int i = 0; i < many; i++) {
                 for (int j = 0; j < many; j++) {
@@ -958,9 +960,8 @@ public final class OddFridays {
             }
         }
 
-        /** ends has, for each set, those with whom a row of just this set can end. */
-        int longestRow(int[] row) {
-            settleApart(row);
+        /** Behind settleApart. ends has, for each set, those with whom a row of just this set can end. */
+        int longestRow() {
             int longest = 0;
             for (int set = 1; set < 1 << many; set++) {
                 ends[set] = endsOf(set);
@@ -983,9 +984,8 @@ public final class OddFridays {
             return found;
         }
 
-        /** Houses keep their order when the row is closed up, so the least set there is the least here. */
-        int greatestSet(int[] row) {
-            settleApart(row);
+        /** Behind settleApart. Homes rise, so the least set of those who live there is the least one of houses. */
+        int greatestSet() {
             int best = 0;
             for (int set = 1; set < 1 << many; set++) {
                 if (Integer.bitCount(set) > Integer.bitCount(best) && isApart(set)) {
